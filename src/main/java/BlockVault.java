@@ -471,10 +471,11 @@ public final class BlockVault {
         Row content = blocks[b].content;
         int moved = 0;
         for (int place = 0; place < CAPACITY && place < content.length; place++) {
-            if (!isLive(b, place)) {
+            Copy copy = content.at(place);
+            if (copy == null || !isLiveAt(copy, b, place)) {
                 continue;
             }
-            if (append(content.at(place)) < 0) {
+            if (append(copy) < 0) {
                 break;
             }
             moved++;
@@ -573,9 +574,9 @@ public final class BlockVault {
     }
 
     // By place, not by STAMP: after a start several blocks may hold the same COPY, and one is meant.
-    private boolean isLive(int b, int place) {
-        Copy copy = blocks[b].content.at(place);
-        return copy != null && index[copy.key].home == b && index[copy.key].place == place;
+    private boolean isLiveAt(Copy copy, int b, int place) {
+        Entry named = index[copy.key];
+        return named.home == b && named.place == place;
     }
 
     private int used(int b) {
@@ -658,7 +659,7 @@ public final class BlockVault {
         }
 
         void add(Copy copy) {
-            if (length < CAPACITY) {
+            if (copy != null && length < CAPACITY) {
                 copies[length] = copy;
                 length++;
             }

@@ -397,6 +397,8 @@ public final class PromiseTest {
         C.due("last first", y.entry(15, 3), 17);
         C.due("first last", y.entry(0, 3), 32);
         C.due("THERE", y.count(0), 0);
+        C.due("put", y.put(0, 1, 1, 1, ALWAYS), 1);
+        C.due("the least VOID time there is", y.evict(1), 1);
         C.due("crash", y.crash(-1), 1);
         C.due("DOWN", y.evict(1), DOWN);
         C.due("REFUSED before DOWN", y.evict(0), REFUSED);
@@ -457,6 +459,10 @@ public final class PromiseTest {
         C.due("sweep", x.sweep(), 1);
         C.due("ENTRIES", x.count(1), 1);
         C.due("next STAMP", x.count(4), 5);
+        C.due("put of the first KEY", x.put(0, 1, 1, 1, ALWAYS), 1);
+        C.due("put of the last KEY", x.put(15, 1, 1, 1, ALWAYS), 1);
+        C.due("tick", x.tick(1), 1006);
+        C.due("sweep", x.sweep(), 2);
         C.due("crash", x.crash(-1), 1);
         C.due("DOWN", x.sweep(), DOWN);
     }
@@ -603,6 +609,7 @@ public final class PromiseTest {
         C.due("no block", x.compact(12), NONE);
         writePair(x, 0, 1);
         C.due("not below the limit", x.compact(12), NONE);
+        C.due("the least limit", x.compact(1), NONE);
         writePair(x, 2, 3);
         writePair(x, 4, 5);
         C.due("remove", x.remove(3, false), 1);
